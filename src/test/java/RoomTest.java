@@ -1,0 +1,74 @@
+import com.sun.management.ThreadMXBean;
+import java.lang.management.ManagementFactory;
+
+/** All calls of a run live in one room: no call makes objects but text(), and that one few. */
+public final class RoomTest {
+  private static final int ROUNDS = 30;
+  private static final ThreadMXBean THREADS =
+      (ThreadMXBean) ManagementFactory.getThreadMXBean();
+
+  private static long sum = 0;
+
+  public static void main(String[] args) {
+    // The first round loads classes.
+    bytesOfCalls();
+    bytesOfTexts();
+    long calls = bytesOfCalls();
+    long texts = bytesOfTexts() / ROUNDS;
+    long objects = bytesOfObjects() / ROUNDS;
+    Check.tell("bytes of all calls but text() are " + calls, true, calls < 2_000);
+    Check.tell("bytes of a text() are " + texts, true, texts < 2_000);
+    Check.tell("bytes of a new object are " + objects, true, objects < 3_000);
+    Check.tell("all answered", true, sum != 0);
+    Check.close();
+  }
+
+  private static Partlister full() {
+    Partlister x = new Partlister();
+    Check.fillUp(x, 0);
+    return x;
+  }
+
+  private static long bytesOfCalls() {
+    Partlister x = full();
+    long before = THREADS.getCurrentThreadAllocatedBytes();
+    for (int i = 0; i < ROUNDS; i++) {
+      sum += callAll(x, i);
+    }
+    return THREADS.getCurrentThreadAllocatedBytes() - before;
+  }
+
+  private static long callAll(Partlister x, int i) {
+    x.assign(1, 0);
+    int part = x.part(0, 3, 28);
+    int cursor = x.cursor(part, 1);
+    x.next(cursor);
+    x.put(cursor, i);
+    x.drop(cursor);
+    x.insert(cursor, 5);
+    x.replaceAll(part, 3, 1);
+    x.removeAll(1, part);
+    x.move(part, 7);
+    return x.sort(0, i % 5) + x.digest() + (x.isSound() ? 1 : 0);
+  }
+
+  private static long bytesOfTexts() {
+    Partlister x = full();
+    for (int i = 0; i < 300; i++) {
+      x.set(0, i % 31, 30);
+    }
+    long before = THREADS.getCurrentThreadAllocatedBytes();
+    for (int i = 0; i < ROUNDS; i++) {
+      sum += x.text(0).length();
+    }
+    return THREADS.getCurrentThreadAllocatedBytes() - before;
+  }
+
+  private static long bytesOfObjects() {
+    long before = THREADS.getCurrentThreadAllocatedBytes();
+    for (int i = 0; i < ROUNDS; i++) {
+      sum += new Partlister().size(0);
+    }
+    return THREADS.getCurrentThreadAllocatedBytes() - before;
+  }
+}
