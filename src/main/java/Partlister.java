@@ -16,6 +16,7 @@ public final class Partlister {
   private static final int ASKED_OF_CURSORS = 7;
   private static final int ASKED_OF_HOUSE = 8;
   private static final int DIGEST_KEY = 7;
+  private static final int MOST_DIGITS = 10;
 
   private static final int IS_STALE = -9;
   private static final int IS_AT_THE_END = -8;
@@ -132,8 +133,8 @@ public final class Partlister {
       throw new IllegalArgumentException("rest is not 0 to by - 1");
     }
     int goers = 0;
-    for (int key = rest; key < KEYS; key += by) {
-      goers |= 1 << key;
+    for (int key = 0; key < KEYS; key++) {
+      goers |= key % by == rest ? 1 << key : 0;
     }
     return takeOutAll(list, goers);
   }
@@ -718,8 +719,10 @@ public final class Partlister {
 
   private static int countDigits(int number) {
     int count = 1;
-    for (int left = number; left > 9; left /= 10) {
+    int left = number / 10;
+    for (int step = 1; step < MOST_DIGITS && left > 0; step++) {
       count++;
+      left /= 10;
     }
     return count;
   }

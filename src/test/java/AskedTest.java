@@ -113,6 +113,8 @@ public final class AskedTest {
     Check.due("38 shorter", false, () -> x.isSame(2, 1));
     Check.due("38 another", false, () -> x.isSame(5, 1));
     Check.due("38 itself", true, () -> x.isSame(0, 0));
+    x.set(0, 0, 9);
+    Check.due("38 only the first is another", false, () -> x.isSame(2, 3));
     Check.noList("38 list", () -> x.isSame(-1, 0));
     Check.noList("38 other", () -> x.isSame(0, 6));
   }
@@ -135,6 +137,8 @@ public final class AskedTest {
     Check.due("39 nothing in empty", -1, () -> x.find(5, 2));
     x.set(1, 2, 4);
     Check.due("39 begun but not ended", -1, () -> x.find(0, 1));
+    x.set(1, 0, 9);
+    Check.due("39 only behind its first", -1, () -> x.find(0, 2));
     Check.noList("39 list", () -> x.find(6, 3));
     Check.noList("39 other", () -> x.find(0, -1));
   }
@@ -306,9 +310,13 @@ public final class AskedTest {
     x.next(0);
     x.add(1, 7);
     x.knock();
+    x.set(0, 1, 9);
+    x.set(1, 1, 10);
+    x.set(0, 3, 9);
     for (int i = 0; i < 95; i++) {
       x.set(0, 0, 8);
     }
+    Check.due("49 digits of tags", "8.104,9.7,7.2,9.9", () -> x.text(0));
     Check.due("49 with all", digestOf(x), () -> x.digest());
     Check.due("49 changes nothing", x.digest(), () -> x.digest());
     Check.due("49 another", false, () -> fresh.digest() == x.digest());

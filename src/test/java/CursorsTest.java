@@ -12,6 +12,7 @@ public final class CursorsTest {
     run();
     end();
     stale();
+    staleByEachCall();
     overByOthers();
     othersWrite();
     Check.close();
@@ -215,10 +216,24 @@ public final class CursorsTest {
     Check.due("28 last is the first place", 0, () -> x.ofCursor(0, 6));
     Check.due("28 nothing more back", 0, () -> x.run(0, true));
     Check.due("28 none is a failure", 0, () -> x.house(6));
-    x.cursor(1, 0);
+    x.next(0);
+    Check.due("28 over one", 1, () -> x.run(0, true));
+    Check.due("28 back from it", 0, () -> x.ofCursor(0, 2));
+    x.run(0, false);
+    x.previous(0);
+    x.previous(0);
+    x.next(0);
+    Check.due("28 over the last one", 1, () -> x.run(0, false));
+    Check.due("28 which is last then", 2, () -> x.ofCursor(0, 6));
+    x.cursor(0, 4);
     x.run(1, false);
-    x.run(1, true);
     Check.due("28 over nothing has no last", -1, () -> x.ofCursor(1, 6));
+    x.end(1);
+    x.cursor(0, 0);
+    x.run(1, true);
+    Check.due("28 over nothing back, too", -1, () -> x.ofCursor(1, 6));
+    x.end(1);
+    x.cursor(1, 0);
     x.add(1, 1);
     Check.due("28 stale", -9, () -> x.run(1, false));
     Check.due("28 stale back", -9, () -> x.run(1, true));
@@ -266,6 +281,37 @@ public final class CursorsTest {
     x.add(0, 6);
     x.sort(0, 0);
     Check.due("2 stale ones are over by order", 0, () -> x.ofCursor(0, 0));
+  }
+
+  /** The rows' own calls have no cursor that did it, so that each number of a cursor is stale. */
+  private static void staleByEachCall() {
+    for (int each = 0; each < 9; each++) {
+      int how = each;
+      Partlister x = Check.with(3, 4, 5, 6);
+      Check.fill(x, 1, 6);
+      x.cursor(0, 0);
+      x.cursor(0, 1);
+      x.cursor(1, 0);
+      change(x, how);
+      Check.due("2 by call " + how + ": the first", 2, () -> x.ofCursor(0, 0));
+      Check.due("2 by call " + how + ": the second", 2, () -> x.ofCursor(1, 0));
+      Check.due("2 by call " + how + ": the other row's", 1, () -> x.ofCursor(2, 0));
+      Check.due("46 by call " + how + ": two are stale", 2, () -> x.house(3));
+    }
+  }
+
+  private static void change(Partlister x, int how) {
+    switch (how) {
+      case 0: x.add(0, 1); break;
+      case 1: x.addAt(0, 4, 1); break;
+      case 2: x.addAll(0, 1, 1); break;
+      case 3: x.append(0, 1); break;
+      case 4: x.removeAt(0, 0); break;
+      case 5: x.remove(0, 3); break;
+      case 6: x.removeAll(0, 1); break;
+      case 7: x.removeIf(0, 2, 1); break;
+      default: x.clear(0); break;
+    }
   }
 
   private static void overByOthers() {

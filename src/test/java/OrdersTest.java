@@ -93,6 +93,7 @@ public final class OrdersTest {
     Check.due("18 by 40", 4, () -> x.move(0, 40));
     Check.due("18 by -39", 3, () -> x.move(0, -39));
     Check.due("18 several rounds", "4.3,5.4,1.0,2.1,3.2", () -> x.text(0));
+    Check.due("18 by -40", 3, () -> x.move(0, -40));
     Check.due("18 by 0", 3, () -> x.move(0, 0));
     Check.due("18 ends nothing", 1, () -> x.ofCursor(0, 0));
     x.part(0, 1, 3);
