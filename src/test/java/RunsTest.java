@@ -1,24 +1,8 @@
-import java.lang.reflect.InvocationTargetException;
-import java.lang.reflect.Method;
 import java.util.ArrayList;
 import java.util.List;
 
 /** Long runs of calls, the same on each day, on a Partlister and on the Model: all answers agree. */
 public final class RunsTest {
-  /**
-   * What each argument is: l a LIST, p a PLACE or one too far, k a KEY, c a CURSOR, b a boolean, d
-   * a divisor, r a rest, o an ORDER, m how far to move, w what is asked.
-   */
-  private static final String[] CALLS = {
-    "add lk", "addAt lpk", "addAll lpl", "append ll", "set lpk", "removeAt lp", "remove lk",
-    "removeAll ll", "retainAll ll", "removeIf ldr", "clear l", "replaceAll lkk", "assign ll",
-    "pack lb", "sort lo", "turn l", "move lm", "exchange lpp", "part lpp", "close l", "cursor lp",
-    "next c", "previous c", "put ck", "drop c", "insert ck", "run cb", "end c", "size l", "key lp",
-    "tag lp", "first lk", "last lk", "many lk", "hasAll ll", "areApart ll", "isSame ll", "find ll",
-    "spot lk", "extreme lb", "hash l", "text l", "ofPart lw", "ofCursor cw", "house w", "isSound ",
-    "knock ", "digest "
-  };
-
   /** Calls that come more often, so that ROWS fill and PARTS and CURSORS are there. */
   private static final String[] FAVOURITES = {
     "add lk", "add lk", "addAt lpk", "append ll", "part lpp", "part lpp", "part lpp", "cursor lp",
@@ -35,7 +19,7 @@ public final class RunsTest {
   private static long seed;
 
   public static void main(String[] args) throws ReflectiveOperationException {
-    List<String> calls = new ArrayList<>(List.of(CALLS));
+    List<String> calls = new ArrayList<>(Calls.ALL);
     for (int round = 0; round < 3; round++) {
       calls.addAll(List.of(FAVOURITES));
     }
@@ -58,12 +42,11 @@ public final class RunsTest {
     StringBuilder told = new StringBuilder();
     int most = CALLS_OF_AN_OBJECT * digestEach / (digestEach + 1);
     for (int count = 1; count <= most && Check.isAllRight(); count++) {
-      String[] call = (calls.get(pick(calls.size())) + " .").split(" ");
-      String kinds = call[1].equals(".") ? "" : call[1];
-      Object[] values = choose(model, kinds, keys, oddOneIn);
-      Object want = answer(model, call[0], values);
-      Object got = answer(x, call[0], values);
-      told.append(call[0]).append(List.of(values)).append(" = ").append(want).append("\n");
+      String call = calls.get(pick(calls.size()));
+      Object[] values = choose(model, Calls.kindsOf(call), keys, oddOneIn);
+      Object want = Calls.answer(model, Calls.nameOf(call), values);
+      Object got = Calls.answer(x, Calls.nameOf(call), values);
+      told.append(Calls.nameOf(call)).append(List.of(values)).append(" = ").append(want).append("\n");
       Check.tell("run " + run + ": the last of\n" + told, want, got);
       // The digest tells the whole state, so that each call must leave the right one behind.
       if (count % digestEach == 0) {
@@ -118,20 +101,5 @@ public final class RunsTest {
       list = pick(6);
     }
     return list;
-  }
-
-  private static Object answer(Object object, String name, Object[] values)
-      throws ReflectiveOperationException {
-    Class<?>[] types = new Class<?>[values.length];
-    for (int i = 0; i < types.length; i++) {
-      types[i] = values[i] instanceof Boolean ? boolean.class : int.class;
-    }
-    Method method = object.getClass().getMethod(name, types);
-    method.setAccessible(true);
-    try {
-      return method.invoke(object, values);
-    } catch (InvocationTargetException e) {
-      return "throws." + e.getCause().getClass().getSimpleName();
-    }
   }
 }
