@@ -838,7 +838,7 @@ public final class Partlister {
     }
 
     int keyAt(int list, int place) {
-      return keyOf(thingAt(list, place));
+      return keyOf(things.read(cellOf(list, place)));
     }
 
     void write(int list, int place, int thing) {

@@ -263,24 +263,24 @@ public final class CursorsTest {
     x.next(0);
     x.part(0, 0, 1);
     x.add(2, 5);
-    Check.due("4 stale by a part's call", 2, () -> x.ofCursor(0, 0));
-    Check.due("4 next", -9, () -> x.next(0));
-    Check.due("4 previous", -9, () -> x.previous(0));
-    Check.due("4 put, last or not", -9, () -> x.put(0, 1));
-    Check.due("4 drop", -9, () -> x.drop(0));
+    Check.due("section 4: stale by a part's call", 2, () -> x.ofCursor(0, 0));
+    Check.due("section 4: next", -9, () -> x.next(0));
+    Check.due("section 4: previous", -9, () -> x.previous(0));
+    Check.due("section 4: put, last or not", -9, () -> x.put(0, 1));
+    Check.due("section 4: drop", -9, () -> x.drop(0));
     x.remove(0, 5);
-    Check.due("2 stays so", 2, () -> x.ofCursor(0, 0));
-    Check.due("2 counted once", 1, () -> x.house(3));
+    Check.due("section 2: stays so", 2, () -> x.ofCursor(0, 0));
+    Check.due("section 2: counted once", 1, () -> x.house(3));
     x.pack(0, true);
-    Check.due("2 over by pack", 0, () -> x.ofCursor(0, 0));
+    Check.due("section 2: over by pack", 0, () -> x.ofCursor(0, 0));
     x.cursor(0, 0);
     x.clear(1);
     x.remove(0, 30);
     x.removeIf(0, 9, 8);
-    Check.due("2 nothing found ends nothing", 1, () -> x.ofCursor(0, 0));
+    Check.due("section 2: nothing found ends nothing", 1, () -> x.ofCursor(0, 0));
     x.add(0, 6);
     x.sort(0, 0);
-    Check.due("2 stale ones are over by order", 0, () -> x.ofCursor(0, 0));
+    Check.due("section 2: stale ones are over by order", 0, () -> x.ofCursor(0, 0));
   }
 
   /** The rows' own calls have no cursor that did it, so that each number of a cursor is stale. */
@@ -293,9 +293,9 @@ public final class CursorsTest {
       x.cursor(0, 1);
       x.cursor(1, 0);
       change(x, how);
-      Check.due("2 by call " + how + ": the first", 2, () -> x.ofCursor(0, 0));
-      Check.due("2 by call " + how + ": the second", 2, () -> x.ofCursor(1, 0));
-      Check.due("2 by call " + how + ": the other row's", 1, () -> x.ofCursor(2, 0));
+      Check.due("section 2: by call " + how + ": the first", 2, () -> x.ofCursor(0, 0));
+      Check.due("section 2: by call " + how + ": the second", 2, () -> x.ofCursor(1, 0));
+      Check.due("section 2: by call " + how + ": the other row's", 1, () -> x.ofCursor(2, 0));
       Check.due("46 by call " + how + ": two are stale", 2, () -> x.house(3));
     }
   }
@@ -322,19 +322,19 @@ public final class CursorsTest {
     x.cursor(3, 0);
     x.cursor(1, 0);
     x.removeAt(3, 0);
-    Check.due("2 on a part above", 0, () -> x.ofCursor(0, 0));
-    Check.due("2 on the part itself", 0, () -> x.ofCursor(1, 0));
-    Check.due("2 on the other row", 1, () -> x.ofCursor(2, 0));
+    Check.due("section 2: on a part above", 0, () -> x.ofCursor(0, 0));
+    Check.due("section 2: on the part itself", 0, () -> x.ofCursor(1, 0));
+    Check.due("section 2: on the other row", 1, () -> x.ofCursor(2, 0));
     x.cursor(2, 0);
     x.cursor(0, 0);
     x.next(1);
     x.drop(1);
-    Check.due("2 a cursor on the row ends parts", -1, () -> x.size(2));
-    Check.due("2 and those on them", 0, () -> x.ofCursor(0, 0));
+    Check.due("section 2: a cursor on the row ends parts", -1, () -> x.size(2));
+    Check.due("section 2: and those on them", 0, () -> x.ofCursor(0, 0));
     x.cursor(0, 0);
     x.replaceAll(0, 1, 1);
-    Check.due("2 made anew", 0, () -> x.ofCursor(0, 0) + x.ofCursor(1, 0));
-    Check.due("2 counted", 5, () -> x.house(5));
+    Check.due("section 2: made anew", 0, () -> x.ofCursor(0, 0) + x.ofCursor(1, 0));
+    Check.due("section 2: counted", 5, () -> x.house(5));
   }
 
   private static void othersWrite() {
@@ -345,11 +345,11 @@ public final class CursorsTest {
     x.exchange(0, 0, 1);
     x.turn(0);
     x.move(0, 1);
-    Check.due("4 next stays", 2, () -> x.ofCursor(0, 2));
-    Check.due("4 last stays", 1, () -> x.ofCursor(0, 6));
-    Check.due("4 things moved", "9.3,3.2,1.0", () -> x.text(0));
-    Check.due("4 last is by place", 4, () -> x.put(0, 7));
-    Check.due("4 there", "9.3,7.4,1.0", () -> x.text(0));
-    Check.due("4 goes on by place", 0, () -> x.next(0));
+    Check.due("section 4: next stays", 2, () -> x.ofCursor(0, 2));
+    Check.due("section 4: last stays", 1, () -> x.ofCursor(0, 6));
+    Check.due("section 4: things moved", "9.3,3.2,1.0", () -> x.text(0));
+    Check.due("section 4: last is by place", 4, () -> x.put(0, 7));
+    Check.due("section 4: there", "9.3,7.4,1.0", () -> x.text(0));
+    Check.due("section 4: goes on by place", 0, () -> x.next(0));
   }
 }

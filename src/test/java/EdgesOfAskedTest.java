@@ -32,6 +32,7 @@ public final class EdgesOfAskedTest {
     isSound();
     knock();
     digest();
+    digestOfSigns();
     digestOfEachNumber();
     Check.close();
   }
@@ -515,6 +516,37 @@ public final class EdgesOfAskedTest {
         .with(x -> x.next(0)).with(x -> x.add(1, 7)).with(x -> x.knock())
         .asked("49 one with a PART, a CURSOR and a STALE one", 580067776695747747L,
             x -> x.digest());
+    Edge.fresh().other(7, 3, 7, 9).asked("49 the first 7 and the last one", -6880013980578358629L,
+        x -> x.digest());
+    Edge.things(31).fill(1, 31).asked("49 full ROWS", 7070907945852050761L, x -> x.digest());
+    fourDeep().asked("49 four PARTS", 5192603245392993392L, x -> x.digest());
+    Edge.row(1, 2).part(0, 0, 1).with(x -> x.close(2)).cursor(0, 0).with(x -> x.end(0))
+        .cursor(0, 1).with(x -> x.next(0)).with(x -> x.next(0)).with(x -> x.knock())
+        .with(x -> x.knock()).asked("49 each count", -6990447560230817503L, x -> x.digest());
+  }
+
+  /** One THING with a TAG, which is as many signs in text() as it has digits. */
+  private static void digestOfSigns() {
+    int[] tags = {0, 9, 10, 89, 90, 99, 100, 509};
+    long[] digests = {
+      4068241207416072901L, -1586417156640744909L, -3131490347734135950L, -1525869116373004460L,
+      -104526259744922926L, -5759184623801740736L, -7304257814895131777L, 2175904260994115533L
+    };
+    for (int each = 0; each < tags.length; each++) {
+      int tag = tags[each];
+      Edge.row(5).with(x -> {
+        for (int call = 1; call <= tag; call++) {
+          x.set(0, 0, 5);
+        }
+      }).due("49 a TAG " + tag, digests[each], x -> x.digest());
+    }
+    int[] keys = {0, 9, 10, 30};
+    long[] others = {
+      -1595272079312308901L, -2468994607426952627L, 6765338446422982128L, -7474096554082593896L
+    };
+    for (int each = 0; each < keys.length; each++) {
+      Edge.row(keys[each]).due("49 a KEY " + keys[each], others[each], x -> x.digest());
+    }
   }
 
   /** Two objects of which just one number differs have other digests. */

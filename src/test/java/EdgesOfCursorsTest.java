@@ -361,29 +361,29 @@ public final class EdgesOfCursorsTest {
 
   private static void staleCanDoNothing() {
     Edge stale = Edge.row(7).cursor(0, 0).with(x -> x.next(0)).with(x -> x.add(0, 1));
-    stale.failed("4 STALE next()", -9, x -> x.next(0));
-    stale.failed("4 STALE previous()", -9, x -> x.previous(0));
-    stale.failed("4 STALE put()", -9, x -> x.put(0, 1));
-    stale.failed("4 STALE drop()", -9, x -> x.drop(0));
-    stale.failed("4 STALE insert()", -9, x -> x.insert(0, 1));
-    stale.failed("4 STALE run()", -9, x -> x.run(0, false));
-    stale.house("4 six were counted, and it is there", "2 0 1 1 0 0 6 0");
+    stale.failed("section 4: STALE next()", -9, x -> x.next(0));
+    stale.failed("section 4: STALE previous()", -9, x -> x.previous(0));
+    stale.failed("section 4: STALE put()", -9, x -> x.put(0, 1));
+    stale.failed("section 4: STALE drop()", -9, x -> x.drop(0));
+    stale.failed("section 4: STALE insert()", -9, x -> x.insert(0, 1));
+    stale.failed("section 4: STALE run()", -9, x -> x.run(0, false));
+    stale.house("section 4: six were counted, and it is there", "2 0 1 1 0 0 6 0");
   }
 
   private static void lastIsByPlace() {
     Edge.row(7, 8, 9).cursor(0, 0).with(x -> x.next(0)).with(x -> x.set(0, 0, 4))
-        .due("4 the one put there by set()", 0, x -> x.ofCursor(0, 6)).with(x -> x.drop(0))
-        .lists("4 it is dropped", "0(8.1,9.2) 1(-)");
+        .due("section 4: the one put there by set()", 0, x -> x.ofCursor(0, 6)).with(x -> x.drop(0))
+        .lists("section 4: it is dropped", "0(8.1,9.2) 1(-)");
     Edge.row(7, 8, 9).cursor(0, 0).with(x -> x.next(0)).with(x -> x.turn(0))
-        .with(x -> x.drop(0)).lists("4 the one there by turn()", "0(8.1,7.0) 1(-)");
+        .with(x -> x.drop(0)).lists("section 4: the one there by turn()", "0(8.1,7.0) 1(-)");
     Edge.row(7, 8, 9).cursor(0, 0).with(x -> x.next(0)).with(x -> x.move(0, 1))
-        .with(x -> x.drop(0)).lists("4 the one there by move()", "0(7.0,8.1) 1(-)");
+        .with(x -> x.drop(0)).lists("section 4: the one there by move()", "0(7.0,8.1) 1(-)");
     Edge.row(7, 8, 9).cursor(0, 0).with(x -> x.next(0)).with(x -> x.exchange(0, 0, 1))
-        .with(x -> x.drop(0)).lists("4 the one there by exchange()", "0(7.0,9.2) 1(-)");
-    Edge.row(7, 8, 9).cursor(0, 0).with(x -> x.turn(0)).due("4 NEXT is by PLACE, too", 2,
+        .with(x -> x.drop(0)).lists("section 4: the one there by exchange()", "0(7.0,9.2) 1(-)");
+    Edge.row(7, 8, 9).cursor(0, 0).with(x -> x.turn(0)).due("section 4: NEXT is by PLACE, too", 2,
         x -> x.next(0));
     Edge.row(7, 8, 9).cursor(0, 0).cursor(0, 2).with(x -> x.next(0)).with(x -> x.next(1))
-        .with(x -> x.put(0, 4)).cursors("4 by another CURSOR's put()",
+        .with(x -> x.put(0, 4)).cursors("section 4: by another CURSOR's put()",
             "0:on 0 at 1 last 0 1:on 0 at 3 last 2");
   }
 

@@ -35,6 +35,7 @@ public final class EdgesOfEndsTest {
     partsByPackAndAssign();
     childrenWithSmallerNumbers();
     cursorsByChanges();
+    byOneThing();
     cursorsByOrders();
     cursorsOfTheRowItself();
     cursorsByPackAndAssign();
@@ -54,7 +55,7 @@ public final class EdgesOfEndsTest {
   private static void partsByChanges() {
     for (int each = 0; each < CHANGES.length; each++) {
       Edge.Call change = CHANGES[each];
-      String name = "2 " + NAMES[each] + ": ";
+      String name = "section 2: " + NAMES[each] + ": ";
       scene().with(x -> change.on(x))
           .due(name + "x stays", true, x -> x.size(3) >= 0)
           .due(name + "its THINGS are the ROW's", true, x -> x.find(0, 3) >= 0 && x.isSound())
@@ -75,35 +76,37 @@ public final class EdgesOfEndsTest {
 
   private static void partsByOrders() {
     for (Edge.Call order : ORDERS) {
-      scene().with(x -> order.on(x)).due("2 in ORDER or anew: x stays", 3, x -> x.size(3))
-          .due("2 in ORDER or anew: ABOVE x stays", 6, x -> x.size(2))
-          .due("2 in ORDER or anew: PARTS of x are OVER", -1, x -> x.size(4))
-          .due("2 in ORDER or anew: beside x is OVER", -1, x -> x.size(5))
-          .due("2 in ORDER or anew: counted", 2, x -> x.house(4));
+      scene().with(x -> order.on(x)).due("section 2: in ORDER or anew: x stays", 3, x -> x.size(3))
+          .due("section 2: in ORDER or anew: ABOVE x stays", 6, x -> x.size(2))
+          .due("section 2: in ORDER or anew: PARTS of x are OVER", -1, x -> x.size(4))
+          .due("section 2: in ORDER or anew: beside x is OVER", -1, x -> x.size(5))
+          .due("section 2: in ORDER or anew: counted", 2, x -> x.house(4));
       scene().with(x -> x.close(5)).part(1, 0, 2).with(x -> order.on(x))
-          .due("2 in ORDER or anew: the other ROW's stays", 2, x -> x.size(5));
+          .due("section 2: in ORDER or anew: the other ROW's stays", 2, x -> x.size(5));
     }
   }
 
   private static void partsOfTheRowItself() {
-    scene().with(x -> x.add(0, 1)).lists("2 by the ROW all its PARTS are OVER",
+    scene().with(x -> x.add(0, 1)).lists("section 2: by the ROW all its PARTS are OVER",
         "0(0.0,1.1,2.2,3.3,4.4,5.5,1.8) 1(2.6,5.7)");
-    scene().with(x -> x.sort(0, 0)).due("2 by the ROW's ORDER, too", 4, x -> x.house(4));
-    scene().with(x -> x.replaceAll(0, 1, 0)).due("2 by the ROW made anew, too", 4,
+    scene().with(x -> x.sort(0, 0)).due("section 2: by the ROW's ORDER, too", 4, x -> x.house(4));
+    scene().with(x -> x.replaceAll(0, 1, 0)).due("section 2: by the ROW made anew, too", 4,
         x -> x.house(4));
-    scene().cursor(0, 0).with(x -> x.insert(1, 1)).due("2 by a CURSOR on the ROW, too", 4,
+    scene().cursor(0, 0).with(x -> x.insert(1, 1)).due("section 2: by a CURSOR on the ROW, too", 4,
         x -> x.house(4));
-    scene().with(x -> x.add(1, 1)).due("2 by the other ROW none", 0, x -> x.house(4));
-    scene().with(x -> x.add(2, 1)).due("2 by 2 all but 2", 6 + 1, x -> x.size(2))
-        .due("2 three were OVER", 3, x -> x.house(4));
-    scene().with(x -> x.add(4, 1)).due("2 by 4 only the one beside", 1, x -> x.house(4))
-        .due("2 3 has it", 4, x -> x.size(3)).due("2 2 has it", 7, x -> x.size(2))
-        .due("2 4 has it", 2, x -> x.size(4)).due("2 5 is OVER", -1, x -> x.size(5));
+    scene().with(x -> x.add(1, 1)).due("section 2: by the other ROW none", 0, x -> x.house(4));
+    scene().with(x -> x.add(2, 1)).due("section 2: by 2 all but 2", 6 + 1, x -> x.size(2))
+        .due("section 2: three were OVER", 3, x -> x.house(4));
+    scene().with(x -> x.add(4, 1)).due("section 2: by 4 only the one beside", 1, x -> x.house(4))
+        .due("section 2: 3 has it", 4, x -> x.size(3)).due("section 2: 2 has it", 7, x -> x.size(2))
+        .due("section 2: 4 has it", 2, x -> x.size(4))
+        .due("section 2: 5 is OVER", -1, x -> x.size(5));
   }
 
   private static void partsByPackAndAssign() {
-    scene().with(x -> x.pack(0, true)).due("2 PACKED: all four", 4, x -> x.house(4));
-    scene().with(x -> x.pack(1, true)).due("2 the other ROW PACKED: none", 0, x -> x.house(4));
+    scene().with(x -> x.pack(0, true)).due("section 2: PACKED: all four", 4, x -> x.house(4));
+    scene().with(x -> x.pack(1, true)).due("section 2: the other ROW PACKED: none", 0,
+        x -> x.house(4));
     scene().with(x -> x.assign(0, 1)).due("14 assigned: all four", 4, x -> x.house(4));
     scene().with(x -> x.assign(0, 0)).due("14 assigned to itself: all four", 4, x -> x.house(4));
     scene().with(x -> x.assign(1, 0)).due("14 the other ROW assigned: none", 0,
@@ -120,11 +123,11 @@ public final class EdgesOfEndsTest {
         "0(0.0,1.1,2.2,3.3) 1(-) 2(1.1,2.2) 3(0.0,1.1,2.2,3.3)");
     turned().due("21 closed with it", 2, x -> x.close(3)).lists("21 both are OVER",
         "0(0.0,1.1,2.2,3.3) 1(-)");
-    turned().with(x -> x.add(2, 9)).lists("2 it stays as the one ABOVE",
+    turned().with(x -> x.add(2, 9)).lists("section 2: it stays as the one ABOVE",
         "0(0.0,1.1,2.2,9.4,3.3) 1(-) 2(1.1,2.2,9.4) 3(0.0,1.1,2.2,9.4,3.3)");
-    turned().with(x -> x.add(3, 9)).lists("2 it is OVER as a PART of it",
+    turned().with(x -> x.add(3, 9)).lists("section 2: it is OVER as a PART of it",
         "0(0.0,1.1,2.2,3.3,9.4) 1(-) 3(0.0,1.1,2.2,3.3,9.4)");
-    turned().cursor(2, 0).with(x -> x.close(3)).cursors("2 with the CURSOR on it", "");
+    turned().cursor(2, 0).with(x -> x.close(3)).cursors("section 2: with the CURSOR on it", "");
   }
 
   /** What a CURSOR tells behind a call, on each LIST of the scene: 0 OVER, 1 as it was, 2 STALE. */
@@ -139,7 +142,11 @@ public final class EdgesOfEndsTest {
 
   private static void cursorsByChanges() {
     for (int each = 0; each < CHANGES.length; each++) {
-      String name = "2 " + NAMES[each] + ":";
+      String name = "section 2: " + NAMES[each] + ":";
+      boolean isByCursor = each >= CHANGES.length - 2;
+      Edge.Call change = CHANGES[each];
+      scene().with(x -> change.on(x)).due(name + " CURSOR 0 is there, if it did it",
+          isByCursor ? 1 : 0, x -> x.ofCursor(0, 0));
       cursorOn(name, CHANGES[each], 0, 2);
       cursorOn(name, CHANGES[each], 1, 1);
       cursorOn(name, CHANGES[each], 2, 0);
@@ -149,71 +156,100 @@ public final class EdgesOfEndsTest {
     }
   }
 
+  /** The least change of a LENGTH. */
+  private static void byOneThing() {
+    Edge.Call[] changes = {
+      x -> x.addAll(0, 0, 1), x -> x.append(0, 1), x -> x.removeAll(0, 1), x -> x.retainAll(0, 1),
+      x -> x.removeIf(0, 5, 4), x -> x.removeIf(0, 5, 3)
+    };
+    for (int each = 0; each < changes.length; each++) {
+      Edge.Call change = changes[each];
+      String name = "section 2: by one THING, " + each;
+      Edge.row(3, 4).other(3).part(0, 0, 2).cursor(0, 0).with(x -> change.on(x))
+          .due(name + ": PARTS are OVER", -1, x -> x.size(2))
+          .cursors(name + ": a CURSOR is STALE", "0:stale on 0");
+    }
+    Edge.row(3).part(0, 0, 1).cursor(0, 0).with(x -> x.clear(0))
+        .lists("section 2: clear() of one: PARTS are OVER", "0(-) 1(-)")
+        .cursors("section 2: clear() of one: a CURSOR is STALE", "0:stale on 0");
+  }
+
   private static void cursorsByOrders() {
     for (Edge.Call order : ORDERS) {
       for (int list = 0; list < 6; list++) {
-        cursorOn("2 in ORDER or anew:", order, list, list == 1 ? 1 : 0);
+        cursorOn("section 2: in ORDER or anew:", order, list, list == 1 ? 1 : 0);
       }
     }
   }
 
   private static void cursorsOfTheRowItself() {
-    Edge.row(1).cursor(0, 1).with(x -> x.add(0, 2)).cursors("2 by a call on the ROW: STALE",
-        "0:stale on 0");
-    Edge.row(1).cursor(0, 1).with(x -> x.clear(0)).cursors("2 of an empty ROW then: STALE",
+    Edge.row(1).cursor(0, 1).with(x -> x.add(0, 2))
+        .cursors("section 2: by a call on the ROW: STALE",
+            "0:stale on 0");
+    Edge.row(1).cursor(0, 1).with(x -> x.clear(0)).cursors("section 2: of an empty ROW then: STALE",
         "0:stale on 0");
     Edge.row(1).cursor(0, 1).cursor(0, 0).with(x -> x.insert(1, 2))
-        .cursors("2 by another CURSOR on the ROW: STALE, but for that one",
+        .cursors("section 2: by another CURSOR on the ROW: STALE, but for that one",
             "0:stale on 0 1:on 0 at 1 last -1");
     Edge.row(1).cursor(0, 1).cursor(0, 1).cursor(0, 1).with(x -> x.previous(2))
-        .with(x -> x.drop(2)).cursors("2 both others: STALE",
+        .with(x -> x.drop(2)).cursors("section 2: both others: STALE",
             "0:stale on 0 1:stale on 0 2:on 0 at 0 last -1");
-    Edge.row(1).cursor(1, 0).with(x -> x.add(1, 2)).cursors("2 on ROW 1, too", "0:stale on 1");
-    Edge.row(1).cursor(0, 1).with(x -> x.sort(0, 0)).cursors("2 in ORDER: OVER", "");
-    Edge.row(1).cursor(0, 1).with(x -> x.replaceAll(0, 1, 0)).cursors("2 made anew: OVER", "");
+    Edge.row(1).cursor(1, 0).with(x -> x.add(1, 2))
+        .cursors("section 2: on ROW 1, too", "0:stale on 1");
+    Edge.row(1).cursor(0, 1).with(x -> x.sort(0, 0)).cursors("section 2: in ORDER: OVER", "");
+    Edge.row(1).cursor(0, 1).with(x -> x.replaceAll(0, 1, 0))
+        .cursors("section 2: made anew: OVER", "");
   }
 
   private static void cursorsByPackAndAssign() {
     for (int each = 0; each < 6; each++) {
       int list = each;
-      cursorOn("2 PACKED:", x -> x.pack(0, false), list, list == 1 ? 1 : 0);
+      cursorOn("section 2: PACKED:", x -> x.pack(0, false), list, list == 1 ? 1 : 0);
       cursorOn("14 assigned:", x -> x.assign(0, 1), list, list == 1 ? 1 : 0);
       cursorOn("14 assigned to itself:", x -> x.assign(0, 0), list, list == 1 ? 1 : 0);
     }
   }
 
   private static void doersStay() {
-    scene().with(x -> x.drop(0)).cursors("2 the one that dropped", "0:on 3 at 0 last -1");
-    scene().with(x -> x.insert(0, 9)).cursors("2 the one that inserted", "0:on 3 at 2 last -1");
+    scene().with(x -> x.drop(0)).cursors("section 2: the one that dropped", "0:on 3 at 0 last -1");
+    scene().with(x -> x.insert(0, 9)).cursors("section 2: the one that inserted",
+        "0:on 3 at 2 last -1");
     scene().with(x -> x.insert(0, 9)).with(x -> x.insert(0, 8))
-        .lists("2 it goes on", "0(0.0,1.1,9.8,8.9,2.2,3.3,4.4,5.5) 1(2.6,5.7) "
+        .lists("section 2: it goes on", "0(0.0,1.1,9.8,8.9,2.2,3.3,4.4,5.5) 1(2.6,5.7) "
             + "2(0.0,1.1,9.8,8.9,2.2,3.3,4.4,5.5) 3(1.1,9.8,8.9,2.2,3.3)");
     scene().cursor(0, 3).cursor(1, 1).with(x -> x.insert(2, 9))
-        .cursors("2 the one on the other ROW that inserted",
+        .cursors("section 2: the one on the other ROW that inserted",
             "0:on 3 at 1 last 0 1:on 0 at 3 last -1 2:on 1 at 2 last -1");
-    scene().cursor(3, 2).with(x -> x.insert(1, 9)).cursors("2 the greater number that inserted",
-        "1:on 3 at 3 last -1");
+    scene().cursor(3, 2).with(x -> x.insert(1, 9))
+        .cursors("section 2: the greater number that inserted",
+            "1:on 3 at 3 last -1");
   }
 
   private static void staleOnesStaySo() {
     Edge stale = Edge.row(1, 2).part(0, 0, 1).cursor(0, 1).with(x -> x.add(0, 3));
-    stale.cursors("2 STALE", "0:stale on 0").house("2 counted", "3 0 1 1 1 0 0 0");
-    stale.with(x -> x.removeAt(0, 2)).cursors("2 with the LENGTH as it was", "0:stale on 0");
-    stale.with(x -> x.clear(0)).with(x -> x.add(0, 1)).cursors("2 whatever comes", "0:stale on 0");
-    stale.house("2 counted once", "4 0 1 1 1 0 0 0");
-    stale.cursor(0, 0).with(x -> x.insert(1, 2)).cursors("2 another one is not",
+    stale.cursors("section 2: STALE", "0:stale on 0")
+        .house("section 2: counted", "3 0 1 1 1 0 0 0");
+    stale.with(x -> x.removeAt(0, 2)).cursors("section 2: with the LENGTH as it was",
+        "0:stale on 0");
+    stale.with(x -> x.clear(0)).with(x -> x.add(0, 1))
+        .cursors("section 2: whatever comes", "0:stale on 0");
+    stale.house("section 2: counted once", "4 0 1 1 1 0 0 0");
+    stale.cursor(0, 0).with(x -> x.insert(1, 2)).cursors("section 2: another one is not",
         "0:stale on 0 1:on 0 at 1 last -1");
-    stale.part(0, 0, 1).with(x -> x.close(2)).cursors("2 not OVER by a PART that is closed",
-        "0:stale on 0 1:on 0 at 1 last -1");
-    stale.with(x -> x.turn(0)).with(x -> x.clear(1)).house("2 STALE still", "5 0 2 1 2 0 0 0");
-    stale.with(x -> x.sort(0, 0)).cursors("2 OVER by ORDER", "").house("2 both are",
-        "5 0 0 0 2 2 0 0");
-    staleOne().with(x -> x.replaceAll(0, 1, 0)).cursors("2 OVER, made anew", "");
-    staleOne().with(x -> x.pack(0, true)).cursors("2 OVER, PACKED", "");
+    stale.part(0, 0, 1).with(x -> x.close(2))
+        .cursors("section 2: not OVER by a PART that is closed",
+            "0:stale on 0 1:on 0 at 1 last -1");
+    stale.with(x -> x.turn(0)).with(x -> x.clear(1))
+        .house("section 2: STALE still", "5 0 2 1 2 0 0 0");
+    stale.with(x -> x.sort(0, 0)).cursors("section 2: OVER by ORDER", "")
+        .house("section 2: both are",
+            "5 0 0 0 2 2 0 0");
+    staleOne().with(x -> x.replaceAll(0, 1, 0)).cursors("section 2: OVER, made anew", "");
+    staleOne().with(x -> x.pack(0, true)).cursors("section 2: OVER, PACKED", "");
     staleOne().with(x -> x.assign(0, 1)).cursors("14 OVER, assigned", "");
     staleOne().with(x -> x.end(0)).cursors("29 OVER, ended", "");
     staleOne().with(x -> x.sort(1, 0)).with(x -> x.pack(1, true)).with(x -> x.assign(1, 0))
-        .cursors("2 STALE still by the other ROW's", "0:stale on 0");
+        .cursors("section 2: STALE still by the other ROW's", "0:stale on 0");
   }
 
   private static Edge staleOne() {
@@ -223,7 +259,7 @@ public final class EdgesOfEndsTest {
   private static void idleCallsEndNothing() {
     for (int each = 0; each < IDLE.length; each++) {
       Edge.Call idle = IDLE[each];
-      String name = "2 idle call " + each;
+      String name = "section 2: idle call " + each;
       Edge edge = Edge.row(0, 1, 2, 3, 4, 5).part(0, 0, 6).part(2, 1, 4).part(3, 0, 1)
           .part(1, 0, 0).cursor(3, 0).cursor(0, 3).cursor(5, 0).with(x -> x.next(0))
           .with(x -> Check.answerOf(() -> idle.on(x)));
@@ -239,13 +275,15 @@ public final class EdgesOfEndsTest {
 
   private static void emptyLists() {
     Edge empty = Edge.fresh().part(1, 0, 0).part(2, 0, 0).part(1, 0, 0).cursor(2, 0).cursor(1, 0);
-    empty.due("2 ORDER of an empty PART", 0, x -> x.sort(2, 3));
-    empty.lists("2 ends the others", "0(-) 1(-) 2(-)").cursors("2 and all CURSORS", "");
-    empty.part(2, 0, 0).cursor(3, 0).cursor(2, 0).due("2 an empty PART made anew", 0,
+    empty.due("section 2: ORDER of an empty PART", 0, x -> x.sort(2, 3));
+    empty.lists("section 2: ends the others", "0(-) 1(-) 2(-)")
+        .cursors("section 2: and all CURSORS", "");
+    empty.part(2, 0, 0).cursor(3, 0).cursor(2, 0).due("section 2: an empty PART made anew", 0,
         x -> x.replaceAll(2, 0, 0));
-    empty.lists("2 ends the others, too", "0(-) 1(-) 2(-)").cursors("2 all CURSORS, too", "");
-    empty.part(2, 0, 0).cursor(1, 0).due("2 ORDER of an empty ROW", 0, x -> x.sort(1, 0));
-    empty.lists("2 ends all PARTS", "0(-) 1(-)").cursors("2 and its CURSOR", "");
+    empty.lists("section 2: ends the others, too", "0(-) 1(-) 2(-)")
+        .cursors("section 2: all CURSORS, too", "");
+    empty.part(2, 0, 0).cursor(1, 0).due("section 2: ORDER of an empty ROW", 0, x -> x.sort(1, 0));
+    empty.lists("section 2: ends all PARTS", "0(-) 1(-)").cursors("section 2: and its CURSOR", "");
     empty.part(1, 0, 0).cursor(1, 0).due("14 an empty ROW assigned to itself", 0,
         x -> x.assign(1, 1)).lists("14 ends its PART", "0(-) 1(-)").cursors("14 its CURSOR", "");
   }

@@ -29,55 +29,56 @@ public final class EdgesOfOrdersTest {
   }
 
   private static void orderByKey() {
-    Edge.row(30, 0, 17).due("3 order 0", 3, x -> x.sort(0, 0))
-        .lists("3 0 the smaller ahead", "0(0.1,17.2,30.0) 1(-)");
-    Edge.row(5, 4, 5, 4).due("3 order 0 with two ALIKE", 4, x -> x.sort(0, 0))
-        .lists("3 0 these in their sequence", "0(4.1,4.3,5.0,5.2) 1(-)");
-    Edge.row(5, 5, 5).due("3 order 0, all ALIKE", 0, x -> x.sort(0, 0))
-        .lists("3 0 all stay", "0(5.0,5.1,5.2) 1(-)");
-    Edge.row(5, 5).with(x -> x.turn(0)).due("3 order 0, whatever TAGS are", 0,
-        x -> x.sort(0, 0)).lists("3 0 TAGS are no order", "0(5.1,5.0) 1(-)");
+    Edge.row(30, 0, 17).due("section 3: order 0", 3, x -> x.sort(0, 0))
+        .lists("section 3: 0 the smaller ahead", "0(0.1,17.2,30.0) 1(-)");
+    Edge.row(5, 4, 5, 4).due("section 3: order 0 with two ALIKE", 4, x -> x.sort(0, 0))
+        .lists("section 3: 0 these in their sequence", "0(4.1,4.3,5.0,5.2) 1(-)");
+    Edge.row(5, 5, 5).due("section 3: order 0, all ALIKE", 0, x -> x.sort(0, 0))
+        .lists("section 3: 0 all stay", "0(5.0,5.1,5.2) 1(-)");
+    Edge.row(5, 5).with(x -> x.turn(0)).due("section 3: order 0, whatever TAGS are", 0,
+        x -> x.sort(0, 0)).lists("section 3: 0 TAGS are no order", "0(5.1,5.0) 1(-)");
   }
 
   private static void orderByKeyTheGreaterAhead() {
-    Edge.row(17, 0, 30).due("3 order 1", 3, x -> x.sort(0, 1))
-        .lists("3 1 the greater ahead", "0(30.2,17.0,0.1) 1(-)");
-    Edge.row(4, 5, 4, 5).due("3 order 1 with two ALIKE", 4, x -> x.sort(0, 1))
-        .lists("3 1 these in their sequence, not turned", "0(5.1,5.3,4.0,4.2) 1(-)");
-    Edge.row(5, 5, 5).due("3 order 1, all ALIKE", 0, x -> x.sort(0, 1));
+    Edge.row(17, 0, 30).due("section 3: order 1", 3, x -> x.sort(0, 1))
+        .lists("section 3: 1 the greater ahead", "0(30.2,17.0,0.1) 1(-)");
+    Edge.row(4, 5, 4, 5).due("section 3: order 1 with two ALIKE", 4, x -> x.sort(0, 1))
+        .lists("section 3: 1 these in their sequence, not turned", "0(5.1,5.3,4.0,4.2) 1(-)");
+    Edge.row(5, 5, 5).due("section 3: order 1, all ALIKE", 0, x -> x.sort(0, 1));
   }
 
   private static void orderByRestOfFive() {
-    Edge.row(9, 3, 12, 6, 30).due("3 order 2", 4, x -> x.sort(0, 2))
-        .lists("3 2 rests 4 3 2 1 0", "0(30.4,6.3,12.2,3.1,9.0) 1(-)");
-    Edge.row(10, 5, 0).due("3 order 2, the same rest", 0, x -> x.sort(0, 2))
-        .lists("3 2 KEYS are no order then", "0(10.0,5.1,0.2) 1(-)");
-    Edge.row(29, 5, 4, 25).due("3 order 2, two rests", 4, x -> x.sort(0, 2))
-        .lists("3 2 these in their sequence", "0(5.1,25.3,29.0,4.2) 1(-)");
-    Edge.row(4, 5).due("3 order 2 is by rest, not by KEY", 2, x -> x.sort(0, 2));
+    Edge.row(9, 3, 12, 6, 30).due("section 3: order 2", 4, x -> x.sort(0, 2))
+        .lists("section 3: 2 rests 4 3 2 1 0", "0(30.4,6.3,12.2,3.1,9.0) 1(-)");
+    Edge.row(10, 5, 0).due("section 3: order 2, the same rest", 0, x -> x.sort(0, 2))
+        .lists("section 3: 2 KEYS are no order then", "0(10.0,5.1,0.2) 1(-)");
+    Edge.row(29, 5, 4, 25).due("section 3: order 2, two rests", 4, x -> x.sort(0, 2))
+        .lists("section 3: 2 these in their sequence", "0(5.1,25.3,29.0,4.2) 1(-)");
+    Edge.row(4, 5).due("section 3: order 2 is by rest, not by KEY", 2, x -> x.sort(0, 2));
   }
 
   private static void orderByTag() {
-    Edge.row(1, 2, 3).due("3 order 3", 2, x -> x.sort(0, 3))
-        .lists("3 3 the greater TAG ahead", "0(3.2,2.1,1.0) 1(-)");
-    Edge.row(1, 2).with(x -> x.turn(0)).due("3 order 3 as it is", 0, x -> x.sort(0, 3));
+    Edge.row(1, 2, 3).due("section 3: order 3", 2, x -> x.sort(0, 3))
+        .lists("section 3: 3 the greater TAG ahead", "0(3.2,2.1,1.0) 1(-)");
+    Edge.row(1, 2).with(x -> x.turn(0)).due("section 3: order 3 as it is", 0, x -> x.sort(0, 3));
     Edge.row(1).with(x -> x.append(1, 0)).with(x -> x.replaceAll(1, 1, 6))
-        .with(x -> x.append(0, 1)).due("3 order 3, the same TAG, other KEYS", 0,
-            x -> x.sort(0, 3)).lists("3 3 these in their sequence", "0(1.0,7.0) 1(7.0)");
+        .with(x -> x.append(0, 1)).due("section 3: order 3, the same TAG, other KEYS", 0,
+            x -> x.sort(0, 3)).lists("section 3: 3 these in their sequence", "0(1.0,7.0) 1(7.0)");
     Edge.row(1).with(x -> x.append(1, 0)).with(x -> x.replaceAll(1, 1, 6))
-        .with(x -> x.addAll(0, 0, 1)).due("3 order 3, the same TAG, the other way", 0,
-            x -> x.sort(0, 3)).lists("3 3 in their sequence, too", "0(7.0,1.0) 1(7.0)");
+        .with(x -> x.addAll(0, 0, 1)).due("section 3: order 3, the same TAG, the other way", 0,
+            x -> x.sort(0, 3)).lists("section 3: 3 in their sequence, too", "0(7.0,1.0) 1(7.0)");
   }
 
   private static void orderByRestOfTwo() {
-    Edge.row(2, 3, 4, 1).due("3 order 4", 3, x -> x.sort(0, 4))
-        .lists("3 4 odd ones ahead, by KEY", "0(1.3,3.1,2.0,4.2) 1(-)");
-    Edge.row(29, 0, 30, 1).due("3 order 4, the least and the greatest", 4, x -> x.sort(0, 4))
-        .lists("3 4 rest, then KEY", "0(1.3,29.0,0.1,30.2) 1(-)");
-    Edge.row(6, 6, 3, 3).due("3 order 4 with two ALIKE", 4, x -> x.sort(0, 4))
-        .lists("3 4 these in their sequence", "0(3.2,3.3,6.0,6.1) 1(-)");
-    Edge.row(8, 6).due("3 order 4, the same rest 0", 2, x -> x.sort(0, 4));
-    Edge.row(7, 5).due("3 order 4, the same rest 1", 2, x -> x.sort(0, 4));
+    Edge.row(2, 3, 4, 1).due("section 3: order 4", 3, x -> x.sort(0, 4))
+        .lists("section 3: 4 odd ones ahead, by KEY", "0(1.3,3.1,2.0,4.2) 1(-)");
+    Edge.row(29, 0, 30, 1).due("section 3: order 4, the least and the greatest", 4, x -> x.sort(0,
+        4))
+        .lists("section 3: 4 rest, then KEY", "0(1.3,29.0,0.1,30.2) 1(-)");
+    Edge.row(6, 6, 3, 3).due("section 3: order 4 with two ALIKE", 4, x -> x.sort(0, 4))
+        .lists("section 3: 4 these in their sequence", "0(3.2,3.3,6.0,6.1) 1(-)");
+    Edge.row(8, 6).due("section 3: order 4, the same rest 0", 2, x -> x.sort(0, 4));
+    Edge.row(7, 5).due("section 3: order 4, the same rest 1", 2, x -> x.sort(0, 4));
   }
 
   private static void sortFewAndMany() {

@@ -59,7 +59,8 @@ public final class EdgesOfRowsTest {
     Edge.row(1, 2).other(8).part(0, 0, 1).noList("4 beyond LENGTH of a PART",
         x -> x.addAll(2, 2, 1));
     Edge.row(1, 2).other(8).part(0, 1, 1).part(2, 0, 0).due("4 into one of no length", 1,
-        x -> x.addAll(3, 0, 1)).lists("4 and those ABOVE it", "0(1.0,8.2,2.1) 1(8.2) 2(8.2) 3(8.2)");
+        x -> x.addAll(3, 0, 1)).lists("4 and those ABOVE it",
+            "0(1.0,8.2,2.1) 1(8.2) 2(8.2) 3(8.2)");
     Edge.row(1, 2).other(8).part(1, 1, 1).asked("4 of a PART of no length", 0,
         x -> x.addAll(0, 1, 2));
     Edge.row(1).other(8).part(0, 0, 1).part(1, 0, 1).due("4 PART to PART", 1,
@@ -79,6 +80,9 @@ public final class EdgesOfRowsTest {
         x -> x.addAll(2, 0, 1));
     Edge.things(30).other(1, 2).part(1, 1, 2).due("4 so many as the PART has", 1,
         x -> x.addAll(0, 30, 2));
+    Edge.things(29).other(1, 2).with(x -> x.addAll(0, 0, 1))
+        .due("4 a ROW that gets full: the other one stays", "1.29,2.30", x -> x.text(1))
+        .due("4 the last one of it", 28, x -> x.tag(0, 30));
     Edge.things(31).other(1).noList("4 PLACE ahead of room", x -> x.addAll(0, 32, 1));
     Edge.things(31).noList("4 other ahead of room", x -> x.addAll(0, 0, 2));
   }
@@ -343,6 +347,9 @@ public final class EdgesOfRowsTest {
         "0(1.0,2.1) 1(-)");
     Edge.things(31).fill(1, 31).due("14 full of full", 31, x -> x.assign(1, 0))
         .due("14 THING by THING", 30, x -> x.tag(1, 30));
+    Edge.things(31).fill(1, 31).with(x -> x.assign(0, 1)).due("14 the one that is full stays", 31,
+        x -> x.tag(1, 0)).due("14 its last one, too", 61, x -> x.tag(1, 30))
+        .due("14 and comes", 61, x -> x.tag(0, 30));
     Edge.row(1, 2).other(3).with(x -> x.assign(0, 1)).due("14 none is MADE", 3, x -> x.house(0));
   }
 

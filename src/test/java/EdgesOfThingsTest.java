@@ -35,65 +35,68 @@ public final class EdgesOfThingsTest {
   }
 
   private static void tags() {
-    Edge.fresh().due("1 the first TAG is 0", 0, x -> x.addAt(1, 0, 7));
-    Edge.row(7, 7).lists("1 each THING has a TAG of its own", "0(7.0,7.1) 1(-)");
-    Edge.row(7).other(8).due("1 both ROWS count as one", 2, x -> x.addAt(0, 0, 9));
-    Edge.row(7).with(x -> x.removeAt(0, 0)).due("1 a TAG never comes again", 1,
+    Edge.fresh().due("section 1: the first TAG is 0", 0, x -> x.addAt(1, 0, 7));
+    Edge.row(7, 7).lists("section 1: each THING has a TAG of its own", "0(7.0,7.1) 1(-)");
+    Edge.row(7).other(8).due("section 1: both ROWS count as one", 2, x -> x.addAt(0, 0, 9));
+    Edge.row(7).with(x -> x.removeAt(0, 0)).due("section 1: a TAG never comes again", 1,
         x -> x.addAt(0, 0, 7));
-    Edge.row(7).with(x -> x.set(0, 0, 7)).lists("1 set() MAKES one", "0(7.1) 1(-)");
-    Edge.row(7).cursor(0, 0).with(x -> x.insert(0, 5)).lists("1 insert() MAKES one",
+    Edge.row(7).with(x -> x.set(0, 0, 7)).lists("section 1: set() MAKES one", "0(7.1) 1(-)");
+    Edge.row(7).cursor(0, 0).with(x -> x.insert(0, 5)).lists("section 1: insert() MAKES one",
         "0(5.1,7.0) 1(-)");
     Edge.row(7, 8).with(x -> x.append(1, 0)).with(x -> x.addAll(1, 0, 0))
         .with(x -> x.assign(0, 1)).with(x -> x.replaceAll(0, 2, 1))
-        .due("1 none is MADE by rows", 2, x -> x.addAt(1, 0, 3));
+        .due("section 1: none is MADE by rows", 2, x -> x.addAt(1, 0, 3));
     Edge.row(7).with(x -> Check.answerOf(() -> x.add(0, 31)))
-        .due("1 none is MADE by a throw", 1, x -> x.addAt(0, 0, 3));
+        .due("section 1: none is MADE by a throw", 1, x -> x.addAt(0, 0, 3));
     Edge.things(31).with(x -> Check.answerOf(() -> x.add(0, 3)))
-        .due("1 none is MADE in a full ROW", 31, x -> x.addAt(1, 0, 3));
+        .due("section 1: none is MADE in a full ROW", 31, x -> x.addAt(1, 0, 3));
     Edge.fresh().with(x -> x.add(0, 0)).with(x -> {
       for (int call = 2; call <= 511; call++) {
         x.set(0, 0, call % 31);
       }
-    }).due("1 the TAG of the 512th call", 511, x -> x.addAt(0, 1, 30));
+    }).due("section 1: the TAG of the 512th call", 511, x -> x.addAt(0, 1, 30));
   }
 
   private static void partsAreTheirRow() {
     Edge.row(1, 2, 3).part(0, 1, 3).with(x -> x.set(2, 0, 9))
-        .lists("1 written into the PART, and so into the ROW", "0(1.0,9.3,3.2) 1(-) 2(9.3,3.2)");
+        .lists("section 1: written into the PART, and so into the ROW",
+            "0(1.0,9.3,3.2) 1(-) 2(9.3,3.2)");
     Edge.row(1, 2, 3).part(0, 1, 3).with(x -> x.set(0, 2, 9))
-        .lists("1 written into the ROW, and so into the PART", "0(1.0,2.1,9.3) 1(-) 2(2.1,9.3)");
+        .lists("section 1: written into the ROW, and so into the PART",
+            "0(1.0,2.1,9.3) 1(-) 2(2.1,9.3)");
     Edge.row(1, 2, 3).part(0, 0, 3).part(2, 1, 3).part(3, 1, 2).with(x -> x.set(4, 0, 9))
-        .lists("1 a PART of a PART of a PART", "0(1.0,2.1,9.3) 1(-) 2(1.0,2.1,9.3) 3(2.1,9.3) "
+        .lists("section 1: a PART of a PART of a PART",
+            "0(1.0,2.1,9.3) 1(-) 2(1.0,2.1,9.3) 3(2.1,9.3) "
             + "4(9.3)");
     Edge.row(1, 2, 3).part(0, 0, 2).part(0, 1, 3).with(x -> x.exchange(2, 0, 1))
-        .lists("1 two PARTS over one PLACE", "0(2.1,1.0,3.2) 1(-) 2(2.1,1.0) 3(1.0,3.2)");
+        .lists("section 1: two PARTS over one PLACE", "0(2.1,1.0,3.2) 1(-) 2(2.1,1.0) 3(1.0,3.2)");
     Edge.row(1, 2, 3).part(0, 1, 3).with(x -> x.turn(0))
-        .lists("1 PLACES, not THINGS", "0(3.2,2.1,1.0) 1(-) 2(2.1,1.0)");
+        .lists("section 1: PLACES, not THINGS", "0(3.2,2.1,1.0) 1(-) 2(2.1,1.0)");
     Edge.row(1, 2).other(3).part(1, 0, 1).with(x -> x.set(2, 0, 9))
-        .lists("1 each PART is of its ROW", "0(1.0,2.1) 1(9.3) 2(9.3)");
+        .lists("section 1: each PART is of its ROW", "0(1.0,2.1) 1(9.3) 2(9.3)");
   }
 
   private static void lengthsAbove() {
     Edge.row(1, 2, 3, 4).part(0, 1, 4).part(2, 1, 2).with(x -> x.addAt(3, 0, 9))
-        .lists("1 one more in all ABOVE", "0(1.0,2.1,9.4,3.2,4.3) 1(-) 2(2.1,9.4,3.2,4.3) "
+        .lists("section 1: one more in all ABOVE", "0(1.0,2.1,9.4,3.2,4.3) 1(-) 2(2.1,9.4,3.2,4.3) "
             + "3(9.4,3.2)");
     Edge.row(1, 2, 3, 4).part(0, 1, 4).part(2, 1, 2).with(x -> x.removeAt(3, 0))
-        .lists("1 one less in all ABOVE", "0(1.0,2.1,4.3) 1(-) 2(2.1,4.3) 3(-)");
+        .lists("section 1: one less in all ABOVE", "0(1.0,2.1,4.3) 1(-) 2(2.1,4.3) 3(-)");
     Edge.row(1, 2).part(0, 1, 1).part(2, 0, 0).with(x -> x.add(3, 9))
-        .lists("1 into a PART of no length", "0(1.0,9.2,2.1) 1(-) 2(9.2) 3(9.2)");
+        .lists("section 1: into a PART of no length", "0(1.0,9.2,2.1) 1(-) 2(9.2) 3(9.2)");
     Edge.row(1, 2).part(0, 2, 2).with(x -> x.add(2, 9))
-        .lists("1 of no length, at the end", "0(1.0,2.1,9.2) 1(-) 2(9.2)");
+        .lists("section 1: of no length, at the end", "0(1.0,2.1,9.2) 1(-) 2(9.2)");
     Edge.fresh().part(1, 0, 0).part(2, 0, 0).part(3, 0, 0).part(4, 0, 0).with(x -> x.add(5, 9))
-        .lists("1 four deep", "0(-) 1(9.0) 2(9.0) 3(9.0) 4(9.0) 5(9.0)");
+        .lists("section 1: four deep", "0(-) 1(9.0) 2(9.0) 3(9.0) 4(9.0) 5(9.0)");
   }
 
   private static void thingsInSeveralPlaces() {
     Edge.row(5, 6).with(x -> x.append(1, 0)).with(x -> x.append(0, 1))
-        .lists("1 twice in a ROW, once in the other one", "0(5.0,6.1,5.0,6.1) 1(5.0,6.1)");
+        .lists("section 1: twice in a ROW, once in the other one", "0(5.0,6.1,5.0,6.1) 1(5.0,6.1)");
     Edge.row(5).with(x -> x.append(1, 0)).with(x -> x.set(1, 0, 9))
-        .lists("1 only the PLACE is written", "0(5.0) 1(9.1)");
+        .lists("section 1: only the PLACE is written", "0(5.0) 1(9.1)");
     Edge.row(5).with(x -> x.append(1, 0)).with(x -> x.removeAt(0, 0))
-        .lists("1 it stays where else it lies", "0(-) 1(5.0)");
+        .lists("section 1: it stays where else it lies", "0(-) 1(5.0)");
   }
 
   private static void addKeys() {
@@ -146,6 +149,8 @@ public final class EdgesOfThingsTest {
     Edge.row(1, 2).noList("3 the greatest int", x -> x.addAt(0, MOST, 9));
     Edge.things(30).due("3 the 31st, at LENGTH", 30, x -> x.addAt(0, 30, 9));
     Edge.things(30).due("3 the 31st, at PLACE 0", 30, x -> x.addAt(0, 0, 9));
+    Edge.things(30).other(5, 6).with(x -> x.addAt(0, 0, 9)).due("3 the last one is behind all", 29,
+        x -> x.tag(0, 30)).due("3 the other ROW stays", "5.30,6.31", x -> x.text(1));
   }
 
   private static void addAtParts() {
@@ -228,6 +233,8 @@ public final class EdgesOfThingsTest {
     Edge.row(1).due("7 the only one", 0, x -> x.removeAt(0, 0)).lists("7 empty", "0(-) 1(-)");
     Edge.things(31).due("7 the last one of a full ROW", 30, x -> x.removeAt(0, 30))
         .due("7 30 stay", 30, x -> x.size(0));
+    Edge.things(31).other(5, 6).with(x -> x.removeAt(0, 0)).due("7 the other ROW stays",
+        "5.31,6.32", x -> x.text(1)).due("7 nothing comes out of it", 30, x -> x.tag(0, 29));
     Edge.things(31).due("7 the first one of a full ROW", 0, x -> x.removeAt(0, 0))
         .due("7 the others move up", 30, x -> x.key(0, 29));
     Edge.row(1, 2, 3, 4).part(0, 1, 3).due("7 PLACE 0 of a PART", 1, x -> x.removeAt(2, 0))

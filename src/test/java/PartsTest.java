@@ -79,17 +79,17 @@ public final class PartsTest {
     x.part(2, 1, 5);
     x.part(3, 1, 3);
     x.part(4, 1, 1);
-    Check.due("1 into the innermost", 1, () -> x.add(5, 9));
-    Check.due("1 there at the same spot", "0.0,1.1,2.2,3.3,9.6,4.4,5.5", () -> x.text(0));
-    Check.due("1 part 4", "3.3,9.6,4.4", () -> x.text(4));
-    Check.due("1 part 3", "2.2,3.3,9.6,4.4,5.5", () -> x.text(3));
-    Check.due("1 part 2", "1.1,2.2,3.3,9.6,4.4,5.5", () -> x.text(2));
-    Check.due("1 all are there", 4, () -> x.house(1));
-    Check.due("1 clear of the middle", 3, () -> x.clear(4));
-    Check.due("1 lengths above", 3, () -> x.size(2));
-    Check.due("1 inner over", -1, () -> x.size(5));
-    Check.due("1 written through", 2, () -> x.set(3, 0, 8));
-    Check.due("1 row", "0.0,1.1,8.7,5.5", () -> x.text(0));
+    Check.due("section 1: into the innermost", 1, () -> x.add(5, 9));
+    Check.due("section 1: there at the same spot", "0.0,1.1,2.2,3.3,9.6,4.4,5.5", () -> x.text(0));
+    Check.due("section 1: part 4", "3.3,9.6,4.4", () -> x.text(4));
+    Check.due("section 1: part 3", "2.2,3.3,9.6,4.4,5.5", () -> x.text(3));
+    Check.due("section 1: part 2", "1.1,2.2,3.3,9.6,4.4,5.5", () -> x.text(2));
+    Check.due("section 1: all are there", 4, () -> x.house(1));
+    Check.due("section 1: clear of the middle", 3, () -> x.clear(4));
+    Check.due("section 1: lengths above", 3, () -> x.size(2));
+    Check.due("section 1: inner over", -1, () -> x.size(5));
+    Check.due("section 1: written through", 2, () -> x.set(3, 0, 8));
+    Check.due("section 1: row", "0.0,1.1,8.7,5.5", () -> x.text(0));
   }
 
   private static void endsAround() {
@@ -102,7 +102,7 @@ public final class PartsTest {
       x.part(3, 0, 1);
       x.part(1, 0, 1);
       change(x, how);
-      String way = "2 by way " + how;
+      String way = "section 2: by way " + how;
       Check.due(way + ": above stays", true, () -> x.size(2) >= 0);
       Check.due(way + ": itself stays", true, () -> x.size(3) >= 0);
       Check.due(way + ": inside is over", -1, () -> x.size(4));
@@ -115,8 +115,8 @@ public final class PartsTest {
     x.part(2, 0, 1);
     x.part(1, 0, 0);
     x.add(0, 7);
-    Check.due("2 a row's call ends all its parts", 1, () -> x.house(1));
-    Check.due("2 but not the other row's", 0, () -> x.size(4));
+    Check.due("section 2: a row's call ends all its parts", 1, () -> x.house(1));
+    Check.due("section 2: but not the other row's", 0, () -> x.size(4));
   }
 
   /** Changes a LENGTH, or the ORDER, by a call on 3. */

@@ -1,7 +1,7 @@
 import java.util.ArrayList;
 import java.util.List;
 
-/** Long runs of calls, the same on each day, on a Partlister and on the Model: all answers agree. */
+/** Long runs of calls, the same each day, on a Partlister and on the Model: all answers agree. */
 public final class RunsTest {
   /** Calls that come more often, so that ROWS fill and PARTS and CURSORS are there. */
   private static final String[] FAVOURITES = {
@@ -46,7 +46,8 @@ public final class RunsTest {
       Object[] values = choose(model, Calls.kindsOf(call), keys, oddOneIn);
       Object want = Calls.answer(model, Calls.nameOf(call), values);
       Object got = Calls.answer(x, Calls.nameOf(call), values);
-      told.append(Calls.nameOf(call)).append(List.of(values)).append(" = ").append(want).append("\n");
+      told.append(Calls.nameOf(call)).append(List.of(values)).append(" = ").append(want)
+          .append("\n");
       Check.tell("run " + run + ": the last of\n" + told, want, got);
       // The digest tells the whole state, so that each call must leave the right one behind.
       if (count % digestEach == 0) {
