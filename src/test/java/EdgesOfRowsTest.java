@@ -142,6 +142,7 @@ public final class EdgesOfRowsTest {
     Edge.row(1).noList("5 other -1", x -> x.append(0, -1));
     Edge.row(1).noList("5 no other 2", x -> x.append(0, 2));
     Edge.row(1).noList("5 other 6", x -> x.append(0, 6));
+    Edge.row(1).noList("5 neither", x -> x.append(3, 3));
     Edge.things(31).noList("5 other ahead of room", x -> x.append(0, 5));
   }
 
@@ -182,6 +183,7 @@ public final class EdgesOfRowsTest {
     Edge.row(5).noList("9 other -1", x -> x.removeAll(0, -1));
     Edge.row(5).noList("9 no other 2", x -> x.removeAll(0, 2));
     Edge.row(5).noList("9 other 6", x -> x.removeAll(0, 6));
+    Edge.row(5).noList("9 neither", x -> x.removeAll(2, 2));
   }
 
   private static void retainAll() {
@@ -218,6 +220,7 @@ public final class EdgesOfRowsTest {
     Edge.row(5).noList("10 other -1", x -> x.retainAll(0, -1));
     Edge.row(5).noList("10 no other 2", x -> x.retainAll(0, 2));
     Edge.row(5).noList("10 other 6", x -> x.retainAll(0, 6));
+    Edge.row(5).noList("10 neither", x -> x.retainAll(2, 2));
   }
 
   private static void removeIf() {
